@@ -1,0 +1,63 @@
+/** Promise 14: nextEnd. */
+public final class Promise14Test {
+    private static final int NEVER = WheelScheduler.NEVER;
+
+    public static void main(String[] args) {
+        severalRuns();
+        stoppedAndGivenUp();
+        beyondTheLastTime();
+        Check.end();
+    }
+
+    private static void severalRuns() {
+        WheelScheduler x = new WheelScheduler(3);
+        int[] durations = {7, 4, 9};
+        for (int duration : durations) {
+            x.manner(duration, 0, 0, 0);
+            x.job(0, 100, 0);
+        }
+        Check.same("none", x.nextEnd(), NEVER);
+        x.advance(10);
+        int[] earliest = {17, 14, 14};
+        for (int job = 0; job < 3; job++) {
+            x.request(job);
+            Check.same("with job " + job, x.nextEnd(), earliest[job]);
+        }
+        x.request(1);
+        x.advance(3);
+        Check.same("at 13", x.nextEnd(), 14);
+        x.advance(1);
+        Check.same("at 14", x.nextEnd(), 17);
+        x.advance(3);
+        Check.same("at 17", x.nextEnd(), 18);
+        x.advance(1);
+        Check.same("at 18", x.nextEnd(), 19);
+        x.advance(1);
+        Check.same("at 19", x.nextEnd(), NEVER);
+    }
+
+    private static void stoppedAndGivenUp() {
+        WheelScheduler x = new WheelScheduler(1);
+        x.manner(200, 0, 0, 0);
+        x.job(0, 1, 0);
+        x.advance(1);
+        x.stop();
+        Check.same("stopped", x.nextEnd(), 201);
+        x.give(0);
+        Check.same("given up", x.nextEnd(), 201);
+        x.advance(199);
+        Check.same("at 200", x.nextEnd(), 201);
+        x.advance(1);
+        Check.same("at 201", x.nextEnd(), NEVER);
+    }
+
+    private static void beyondTheLastTime() {
+        WheelScheduler x = new WheelScheduler(1);
+        x.manner(200, 0, 0, 0);
+        x.job(0, 1000000, 0);
+        for (int i = 0; i < 34; i++) {
+            x.advance(30000);
+        }
+        Check.same("at the last time", x.nextEnd(), 1000200);
+    }
+}
