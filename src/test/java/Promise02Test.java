@@ -41,6 +41,21 @@ public final class Promise02Test {
         x.advance(1);
         Check.same("overlap at first", x.about(0, 1), 1);
         Check.same("waiting at first", x.about(0, 3), 1);
+        priorityAtFirst();
+    }
+
+    private static void priorityAtFirst() {
+        WheelScheduler x = new WheelScheduler(1);
+        x.job(0, 1, 0);
+        x.job(0, 1, 0);
+        x.manner(1, 0, 0, 0);
+        x.job(0, 1, 0);
+        x.give(0);
+        x.job(0, 1, 0);
+        x.advance(3);
+        Check.same("no higher than 0", x.run(2, 0), 0);
+        Check.same("no lower than 0", x.run(1, 0), 1);
+        Check.same("made with 0", x.run(0, 0), 2);
     }
 
     private static void ranges() {

@@ -9,6 +9,7 @@ public final class Promise06Test {
         lostByOverlap();
         lostByFullLine();
         orderOfStarts();
+        orderWithinAJob();
         oneRunOfAJob();
         whileStopped();
         Check.end();
@@ -109,6 +110,26 @@ public final class Promise06Test {
         for (int i = 0; i < order.length; i++) {
             Check.same("start " + i, x.run(order.length - 1 - i, 0), order[i]);
             Check.same("time of start " + i, x.run(order.length - 1 - i, 1), i == 0 ? 1 : 10 + i);
+        }
+    }
+
+    private static void orderWithinAJob() {
+        WheelScheduler x = new WheelScheduler(1);
+        x.manner(10, 0, 1, 0);
+        for (int job = 0; job < 12; job++) {
+            x.job(0, 1000000, 0);
+        }
+        for (int job = 0; job < 12; job += 11) {
+            int begin = x.state(0);
+            for (int i = 0; i < 4; i++) {
+                x.request(job);
+                x.advance(i < 3 ? 2 : 30);
+            }
+            for (int i = 0; i < 4; i++) {
+                Check.same("job " + job + ", start " + i, x.run(3 - i, 1), begin + 10 * i);
+                Check.same("job " + job + ", due time " + i, x.run(3 - i, 2), begin + 2 * i);
+            }
+            x.advance(10);
         }
     }
 

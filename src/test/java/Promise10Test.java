@@ -53,12 +53,12 @@ public final class Promise10Test {
         for (int i = 0; i < 33; i++) {
             x.advance(30000);
         }
-        Check.same("999200 is the last first day of a year", x.due(3), 992000);
+        Check.same("the first day of the last year", x.due(3), 992000);
         x.advance(9500);
         Check.same("up to 1000000", x.due(0), 1000000);
-        Check.same("beyond it", x.due(1), 999501);
+        Check.same("one before 1000000", x.due(1), 999501);
         x.advance(1);
-        Check.same("beyond it now", x.due(1), NEVER);
+        Check.same("the next one would be beyond it", x.due(1), NEVER);
         Check.same("no first month any more", x.due(2), NEVER);
         Check.same("no first day of the year any more", x.due(3), NEVER);
         x.advance(498);
