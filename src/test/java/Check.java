@@ -42,6 +42,12 @@ final class Check {
         return text.toString();
     }
 
+    /** As many calls of advance as are needed, at most 34. */
+    static void advanceTo(WheelScheduler x, int time) {
+        for (int now = x.state(0); now < time; now = x.advance(Math.min(30000, time - now))) {
+        }
+    }
+
     static void unchanged(String calls, String before, WheelScheduler x) {
         String after = picture(x);
         if (!before.equals(after)) {

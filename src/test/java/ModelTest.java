@@ -11,6 +11,7 @@ public final class ModelTest {
     private final Model model;
     private final String name;
     private final boolean fast;
+    private final boolean late;
 
     private ModelTest(int seed) {
         draw = new Random(seed);
@@ -19,6 +20,7 @@ public final class ModelTest {
         model = new Model(workers);
         name = "seed " + seed + ", call ";
         fast = seed % 50 == 0;
+        late = seed % 25 == 1;
     }
 
     public static void main(String[] args) {
@@ -29,9 +31,23 @@ public final class ModelTest {
     }
 
     private void calls() {
-        for (int i = 0; i < CALLS; i++) {
+        int first = late ? nearTheEndOfTime() : 0;
+        for (int i = first; i < CALLS; i++) {
             call(name + i + ": ");
         }
+    }
+
+    /** With few ticks left, so that the last ones are among the calls; answers how many calls that took. */
+    private int nearTheEndOfTime() {
+        int ticks = 1000000 - draw.nextInt(1000);
+        int calls = 0;
+        while (ticks > 0) {
+            int n = Math.min(30000, ticks);
+            Check.same(name + "advance", x.advance(n), model.advance(n));
+            ticks -= n;
+            calls++;
+        }
+        return calls;
     }
 
     /** Mostly within the range, now and then just outside it. */

@@ -7,6 +7,7 @@ public final class Promise01Test {
             newObject(asked[i], had[i]);
         }
         objectsAreApart();
+        jobsAreDueFromTickOne();
         Check.end();
     }
 
@@ -31,6 +32,15 @@ public final class Promise01Test {
         }
         Check.same(made + "free after requests", x.state(1), 0);
         Check.same(made + "waiting after requests", x.state(2), 5 - had);
+    }
+
+    private static void jobsAreDueFromTickOne() {
+        WheelScheduler x = new WheelScheduler(0);
+        Check.same("now is time 0", x.job(0, 0, 0), WheelScheduler.REFUSED);
+        Check.same("time 1 is later", x.job(0, 1, 0), 0);
+        Check.same("not stopped, so it is started", x.advance(1), 1);
+        Check.same("not stopped, so nothing is missed", x.about(0, 2), 0);
+        Check.same("the one worker does it", x.state(1), 0);
     }
 
     private static void objectsAreApart() {

@@ -6,6 +6,7 @@ public final class Promise02Test {
         atFirst();
         ranges();
         refusedKeepsTheOldOne();
+        eachRefusalKeepsAllFour();
         onlyJobsFromNowOn();
         priorityOrders();
         Check.end();
@@ -86,6 +87,40 @@ public final class Promise02Test {
         shows("short", x, 1, 0, 0);
     }
 
+    /** Each value just out of its range, the other three within theirs, but not as they were. */
+    private static void eachRefusalKeepsAllFour() {
+        int[][] wrong = {{0, 5, 0, 2}, {201, 5, 0, 2}, {9, -1, 0, 2}, {9, 10, 0, 2},
+            {9, 5, -1, 2}, {9, 5, 2, 2}, {9, 5, 0, -1}, {9, 5, 0, 3}};
+        for (int[] m : wrong) {
+            String name = "after manner " + java.util.Arrays.toString(m);
+            WheelScheduler x = new WheelScheduler(1);
+            x.manner(1, 2, 0, 0);
+            x.job(0, 1000, 0);
+            x.manner(1, 4, 0, 0);
+            x.job(0, 1000, 0);
+            x.manner(7, 3, 1, 1);
+            Check.no(name, x.manner(m[0], m[1], m[2], m[3]));
+            x.job(1, 100, 1);
+            x.request(0);
+            for (int job = 0; job < 3; job++) {
+                x.request(job);
+            }
+            x.advance(1);
+            Check.same(name + ", priority 4 first", x.run(0, 0), 1);
+            x.advance(1);
+            Check.same(name + ", then the new job", x.run(0, 0), 2);
+            Check.same(name + ", duration", x.nextEnd(), 9);
+            x.advance(7);
+            Check.same(name + ", priority 2 last", x.run(0, 0), 0);
+            x.advance(93);
+            Check.same(name + ", overlap: waiting", x.about(2, 3), 2);
+            Check.same(name + ", overlap: lost", x.about(2, 1), 0);
+            x.stop();
+            x.advance(2);
+            Check.same(name + ", misfire", x.go(), 1);
+        }
+    }
+
     private static void onlyJobsFromNowOn() {
         WheelScheduler x = new WheelScheduler(3);
         x.manner(5, 0, 0, 0);
@@ -97,6 +132,27 @@ public final class Promise02Test {
         x.advance(6);
         x.request(1);
         Check.same("cron job made after", x.nextEnd(), 56);
+        overlapAndMisfireOfOldJobsStay();
+    }
+
+    private static void overlapAndMisfireOfOldJobsStay() {
+        WheelScheduler x = new WheelScheduler(3);
+        x.manner(50, 0, 0, 0);
+        x.job(1, 1, 1);
+        x.manner(50, 0, 1, 2);
+        x.job(1, 1, 1);
+        x.manner(50, 0, 0, 1);
+        x.advance(3);
+        Check.same("overlap 0 stays", x.about(0, 1), 2);
+        Check.same("overlap 1 stays", x.about(1, 1), 0);
+        x.stop();
+        x.advance(1);
+        Check.same("misfire 0 and 2 stay", x.go(), 1);
+        x.stop();
+        x.advance(60);
+        Check.same("the run ended", x.about(1, 4), 0);
+        Check.same("the line is full", x.go(), 0);
+        Check.same("one of it was started", x.about(1, 3), 2);
     }
 
     private static void priorityOrders() {

@@ -6,6 +6,10 @@ public final class Promise03Test {
         wrongNumbers();
         edges();
         numbers();
+        refusedTakesNoNumber();
+        laterThanNow();
+        periodIsNotLookedAtForOnce();
+        atTheEndOfTime();
         once();
         every();
         after();
@@ -55,6 +59,70 @@ public final class Promise03Test {
         Check.same("next free", x.job(1, 5, 5), 7);
         Check.same("last free", x.job(2, 5, 5), 11);
         Check.same("none free", x.job(2, 5, 5), REFUSED);
+    }
+
+    private static void refusedTakesNoNumber() {
+        WheelScheduler x = new WheelScheduler(1);
+        for (int job = 0; job < 12; job++) {
+            Check.same("kind 3", x.job(3, 5, 5), REFUSED);
+            Check.same("at 0", x.job(0, 0, 5), REFUSED);
+            Check.same("period 0", x.job(1, 5, 0), REFUSED);
+            Check.same("pause 2001", x.job(2, 5, 2001), REFUSED);
+            Check.same("no job yet", x.about(job, 5), REFUSED);
+            Check.same("the least number", x.job(job % 3, 5, 5), job);
+        }
+        for (int job = 11; job >= 0; job--) {
+            x.give(job);
+            Check.same("the only number that is free", x.job(0, 5, 0), job);
+        }
+        x.give(0);
+        x.give(11);
+        Check.same("the least of two", x.cron(1, 1, 1, 1, 1), 0);
+        Check.same("the other", x.job(0, 5, 0), 11);
+        Check.same("no more", x.job(0, 5, 0), REFUSED);
+    }
+
+    private static void laterThanNow() {
+        WheelScheduler x = new WheelScheduler(1);
+        x.advance(100);
+        for (int kind = 0; kind <= 2; kind++) {
+            Check.same("before now", x.job(kind, 99, 1), REFUSED);
+            Check.same("now", x.job(kind, 100, 1), REFUSED);
+            Check.same("just after now", x.job(kind, 101, 1), kind);
+            Check.same("due", x.due(kind), 101);
+        }
+        x.advance(1);
+        Check.same("first due at the next tick", x.state(2) + x.state(3), 3);
+    }
+
+    private static void periodIsNotLookedAtForOnce() {
+        int[] periods = {0, -1, 2001, Integer.MIN_VALUE, Integer.MAX_VALUE};
+        for (int period : periods) {
+            WheelScheduler x = new WheelScheduler(1);
+            Check.same("once, period " + period, x.job(0, 5, period), 0);
+            x.advance(5);
+            Check.same("once, period " + period + ", due", x.run(0, 2), 5);
+            Check.same("once, period " + period + ", not again", x.due(0), NEVER);
+            x.advance(10000);
+            Check.same("once, period " + period + ", one run", x.about(0, 0), 1);
+            Check.same("every, period " + period, x.job(1, 20000, period), REFUSED);
+            Check.same("after, pause " + period, x.job(2, 20000, period), REFUSED);
+        }
+    }
+
+    private static void atTheEndOfTime() {
+        WheelScheduler x = new WheelScheduler(1);
+        Check.advanceTo(x, 999999);
+        for (int kind = 0; kind <= 2; kind++) {
+            Check.same("at 999999, now", x.job(kind, 999999, 2000), REFUSED);
+            Check.same("at 999999, beyond", x.job(kind, 1000001, 2000), REFUSED);
+            Check.same("at 999999, the last time", x.job(kind, 1000000, 2000), kind);
+        }
+        x.advance(1);
+        for (int kind = 0; kind <= 2; kind++) {
+            Check.same("at 1000000, now", x.job(kind, 1000000, 2000), REFUSED);
+            Check.same("at 1000000, beyond", x.job(kind, 1000001, 2000), REFUSED);
+        }
     }
 
     private static void once() {

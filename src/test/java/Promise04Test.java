@@ -8,6 +8,7 @@ public final class Promise04Test {
         eachBit();
         dayRule();
         limits();
+        jobsOfBothSorts();
         runsWhenDue();
         Check.end();
     }
@@ -16,7 +17,7 @@ public final class Promise04Test {
         WheelScheduler x = new WheelScheduler(1);
         String before = Check.picture(x);
         for (int field = 0; field < 5; field++) {
-            int[] wrong = {0, ALL[field] + 1, 2 * ALL[field] + 1, -1, Integer.MIN_VALUE, Integer.MIN_VALUE + 1,
+            int[] wrong = {0, ALL[field] + 1, ALL[field] + 2, 2 * ALL[field] + 1, -1, -ALL[field] - 1, Integer.MIN_VALUE, Integer.MIN_VALUE + 1,
                 Integer.MAX_VALUE};
             for (int set : wrong) {
                 int[] s = ALL.clone();
@@ -80,6 +81,21 @@ public final class Promise04Test {
         Check.unchanged("13th cron job", before, x);
         x.give(5);
         Check.same("least free", x.cron(1, 1, 1, 1, 1), 5);
+    }
+
+    private static void jobsOfBothSorts() {
+        WheelScheduler x = new WheelScheduler(1);
+        for (int job = 0; job < 12; job++) {
+            Check.same("number", job % 2 == 0 ? x.job(1, 5, 5) : x.cron(1, 1, 1, 1, 1), job);
+        }
+        Check.same("13th by cron", x.cron(1, 1, 1, 1, 1), REFUSED);
+        Check.same("13th by job", x.job(1, 5, 5), REFUSED);
+        x.give(8);
+        x.give(3);
+        Check.same("the least free by cron", x.cron(1, 1, 1, 1, 1), 3);
+        Check.same("wrong sets", x.cron(1, 1, 1, 1, 0), REFUSED);
+        Check.same("the other by cron", x.cron(1, 1, 1, 1, 1), 8);
+        Check.same("its kind", x.about(8, 5), 3);
     }
 
     private static void runsWhenDue() {

@@ -4,6 +4,7 @@ public final class Promise05Test {
 
     public static void main(String[] args) {
         noSuchJob();
+        theOthersStay();
         requestsGoAway();
         runGoesOn();
         numberUsedAgain();
@@ -29,6 +30,26 @@ public final class Promise05Test {
         Check.same("request", x.request(0), REFUSED);
         x.advance(10);
         Check.same("no more runs", x.state(3), 3);
+    }
+
+    private static void theOthersStay() {
+        WheelScheduler x = new WheelScheduler(3);
+        x.manner(4, 0, 1, 2);
+        for (int job = 0; job < 12; job++) {
+            x.job(1, 1 + job, 20);
+        }
+        x.advance(8);
+        Check.yes("give 11", x.give(11));
+        Check.yes("give 0", x.give(0));
+        Check.yes("give 5", x.give(5));
+        for (int job = 0; job < 12; job++) {
+            boolean gone = job == 0 || job == 5 || job == 11;
+            Check.same("due " + job, x.due(job), gone ? REFUSED : job < 8 ? 21 + job : 1 + job);
+            Check.same("kind " + job, x.about(job, 5), gone ? REFUSED : 1);
+            if (gone) {
+                Check.no("give " + job + " again", x.give(job));
+            }
+        }
     }
 
     private static void requestsGoAway() {

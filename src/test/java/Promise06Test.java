@@ -4,6 +4,8 @@ public final class Promise06Test {
 
     public static void main(String[] args) {
         numbers();
+        aMillionIsReachedExactly();
+        manyTicksAreOneByOne();
         lastTime();
         endsBeforeDue();
         lostByOverlap();
@@ -29,6 +31,41 @@ public final class Promise06Test {
         Check.same("one run", x.state(3), 1);
         Check.same("advance 30000", x.advance(30000), 30001);
         Check.same("a run at each tick", x.state(3), 30001);
+    }
+
+    private static void aMillionIsReachedExactly() {
+        int[] starts = {969999, 970000, 970001, 999999, 1000000};
+        int[] ends = {999999, 1000000, 1000000, 1000000, 1000000};
+        for (int i = 0; i < starts.length; i++) {
+            WheelScheduler x = new WheelScheduler(1);
+            Check.advanceTo(x, starts[i]);
+            Check.same("30000 ticks from " + starts[i], x.advance(30000), ends[i]);
+            Check.same("29999 more", x.advance(29999), 1000000);
+            Check.same("0 more", x.advance(0), 1000000);
+            Check.same("-1 more", x.advance(-1), REFUSED);
+            Check.same("the time", x.state(0), 1000000);
+        }
+    }
+
+    private static WheelScheduler everyKind() {
+        WheelScheduler x = new WheelScheduler(2);
+        for (int job = 0; job < 9; job++) {
+            x.manner(2 + job, job % 4, job % 2, 0);
+            x.job(job % 3, 2 + job, 5 + job);
+        }
+        x.cron(1 << 3 | 1 << 8, 255, 1023, 15, 127);
+        return x;
+    }
+
+    private static void manyTicksAreOneByOne() {
+        WheelScheduler together = everyKind();
+        WheelScheduler apart = everyKind();
+        together.advance(90);
+        for (int tick = 0; tick < 90; tick++) {
+            apart.advance(1);
+            apart.advance(0);
+        }
+        Check.unchanged("90 ticks at once, and one by one with none between them", Check.picture(apart), together);
     }
 
     private static void lastTime() {

@@ -6,6 +6,8 @@ public final class Promise07Test {
         noSuchJob();
         stopped();
         fullLine();
+        roomAgain();
+        atTheEndOfTime();
         startedOrWaits();
         overlapIsNotAsked();
         dueNow();
@@ -49,6 +51,35 @@ public final class Promise07Test {
         Check.same("a fourth one", x.request(0), REFUSED);
         Check.unchanged("a fourth request", before, x);
         Check.same("not lost", x.about(0, 1), 0);
+    }
+
+    private static void roomAgain() {
+        WheelScheduler x = oneJob();
+        for (int i = 0; i < 4; i++) {
+            x.advance(1);
+            x.request(0);
+        }
+        Check.same("full at 4", x.request(0), REFUSED);
+        x.advance(46);
+        Check.same("full at 50", x.request(0), REFUSED);
+        x.advance(1);
+        Check.same("one was started at 51", x.about(0, 3), 2);
+        Check.same("room at 51", x.request(0), 0);
+        Check.same("full again", x.request(0), REFUSED);
+        x.advance(150);
+        int[] dues = {51, 4, 3, 2, 1};
+        for (int k = 0; k < dues.length; k++) {
+            Check.same("due, " + k + " before the latest", x.run(k, 2), dues[k]);
+        }
+    }
+
+    private static void atTheEndOfTime() {
+        WheelScheduler x = new WheelScheduler(1);
+        x.job(0, 1, 0);
+        Check.advanceTo(x, 1000000);
+        Check.same("a request at the last time", x.request(0), 1);
+        Check.same("due then", x.run(0, 2), 1000000);
+        Check.same("another one waits", x.request(0), 0);
     }
 
     private static void startedOrWaits() {

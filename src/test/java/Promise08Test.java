@@ -1,6 +1,37 @@
 /** Promise 8: stop. */
 public final class Promise08Test {
     public static void main(String[] args) {
+        stopAndStopAgain();
+        stoppedTwiceForgetsNothing();
+        stoppedBeforeTheFirstTick();
+        Check.end();
+    }
+
+    private static void stoppedTwiceForgetsNothing() {
+        WheelScheduler x = new WheelScheduler(1);
+        x.manner(1, 0, 0, 2);
+        x.job(1, 1, 1);
+        Check.yes("stop", x.stop());
+        x.advance(1);
+        Check.no("stop again", x.stop());
+        x.advance(1);
+        Check.no("stop a third time", x.stop());
+        Check.same("stopped once, one go is enough", x.go(), 2);
+        Check.same("not stopped", x.state(4), 0);
+    }
+
+    private static void stoppedBeforeTheFirstTick() {
+        WheelScheduler x = new WheelScheduler(1);
+        Check.yes("stop a new object", x.stop());
+        Check.no("twice", x.stop());
+        Check.same("a job can be made", x.job(0, 1, 0), 0);
+        Check.same("time goes on", x.advance(2), 2);
+        Check.same("missed", x.about(0, 2), 1);
+        Check.same("not started", x.state(3), 0);
+        Check.same("nothing waits", x.state(2), 0);
+    }
+
+    private static void stopAndStopAgain() {
         WheelScheduler x = new WheelScheduler(1);
         x.manner(5, 0, 1, 0);
         x.job(1, 1, 2);
@@ -28,6 +59,5 @@ public final class Promise08Test {
         Check.same("the run ended", x.state(1), 1);
         x.go();
         Check.yes("stop after go", x.stop());
-        Check.end();
     }
 }

@@ -7,6 +7,9 @@ public final class Promise09Test {
         misfires();
         asFarAsThreeWait();
         sinceItWasStopped();
+        misfireOfEachJob();
+        overlapIsNotAsked();
+        madeWhileStopped();
         dueNowAndInOrder();
         waitingOnesStart();
         Check.end();
@@ -82,6 +85,48 @@ public final class Promise09Test {
         x.advance(5);
         Check.same("one missed since", x.go(), 1);
         Check.same("missed in all", x.about(0, 2), 3);
+    }
+
+    /** Jobs of all numbers, with each misfire, and missed once, thrice or five times. */
+    private static void misfireOfEachJob() {
+        WheelScheduler x = new WheelScheduler(1);
+        int[] periods = {5, 2, 1};
+        for (int job = 0; job < 12; job++) {
+            x.manner(200, 0, 0, job % 3);
+            x.job(1, 1, periods[job / 3 % 3]);
+        }
+        x.stop();
+        x.advance(5);
+        int[] requests = {0, 1, 1, 0, 1, 3, 0, 1, 3, 0, 1, 1};
+        Check.same("requests in all", x.go(), 12);
+        for (int job = 0; job < 12; job++) {
+            Check.same("requests of job " + job, x.about(job, 3) + x.about(job, 0), requests[job]);
+        }
+        Check.same("the first that has one was started", x.run(0, 0), 1);
+        Check.same("the others wait", x.state(2), 11);
+    }
+
+    private static void overlapIsNotAsked() {
+        WheelScheduler x = new WheelScheduler(1);
+        x.manner(100, 0, 0, 2);
+        x.job(1, 1, 1);
+        x.advance(1);
+        x.stop();
+        x.advance(2);
+        Check.same("overlap 0, a run goes on", x.go(), 2);
+        Check.same("both wait", x.about(0, 3), 2);
+        Check.same("not lost", x.about(0, 1), 0);
+    }
+
+    private static void madeWhileStopped() {
+        WheelScheduler x = new WheelScheduler(1);
+        x.stop();
+        x.advance(5);
+        x.manner(1, 0, 0, 2);
+        x.job(1, 6, 2);
+        x.advance(4);
+        Check.same("missed at 6 and 8", x.go(), 2);
+        Check.same("due at the go", x.run(0, 2), 9);
     }
 
     private static void dueNowAndInOrder() {

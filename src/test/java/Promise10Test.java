@@ -5,6 +5,8 @@ public final class Promise10Test {
     public static void main(String[] args) {
         noSuchJob();
         laterThanNow();
+        notKnown();
+        lastDueTimeOfEachKind();
         beyondTheLastTime();
         afterBeyondTheLastTime();
         Check.end();
@@ -41,6 +43,59 @@ public final class Promise10Test {
         }
         x.advance(4);
         Check.same("at 14 the run of 12 .. 14 has ended", x.due(1), 19);
+    }
+
+    private static void notKnown() {
+        WheelScheduler x = new WheelScheduler(1);
+        x.manner(5, 0, 0, 0);
+        x.job(2, 3, 4);
+        Check.same("known at first", x.due(0), 3);
+        x.advance(2);
+        Check.same("known a tick before", x.due(0), 3);
+        for (int time = 3; time < 8; time++) {
+            x.advance(1);
+            Check.same("not known at " + time, x.due(0), NEVER);
+        }
+        x.advance(1);
+        Check.same("known at the end", x.due(0), 12);
+        x.advance(3);
+        Check.same("known a tick before again", x.due(0), 12);
+        x.advance(1);
+        Check.same("not known again", x.due(0), NEVER);
+        x.give(0);
+        Check.same("no such job", x.due(0), REFUSED);
+    }
+
+    /** Two jobs of each kind: one is due at 1000000, the other would be a tick later. */
+    private static void lastDueTimeOfEachKind() {
+        WheelScheduler x = new WheelScheduler(3);
+        Check.same("once", x.job(0, 1000000, 0), 0);
+        Check.same("once beyond", x.job(0, 1000001, 0), REFUSED);
+        x.job(1, 998000, 2000);
+        x.job(1, 998001, 2000);
+        x.job(2, 998000, 1999);
+        x.job(2, 998000, 2000);
+        Check.same("month 3, which begins at 1000000", x.cron(1, 1, 1, 1 << 2, 127), 5);
+        Check.same("the tick after that", x.cron(2, 1, 1, 1 << 2, 127), 6);
+        x.stop();
+        Check.advanceTo(x, 998001);
+        int[] late = {1000000, 1000000, NEVER, 999999, 1000000, 1000000, NEVER};
+        for (int job = 0; job < late.length; job++) {
+            Check.same("at 998001, job " + job, x.due(job), late[job]);
+        }
+        x.advance(1998);
+        Check.same("a pause later it would be beyond", x.due(3), NEVER);
+        Check.same("made at 999999: month 4", x.cron(1, 1, 1, 1 << 3, 127), 7);
+        Check.same("never again", x.due(7), NEVER);
+        Check.same("made at 999999: month 3", x.cron(1, 1, 1, 1 << 2, 127), 8);
+        Check.same("a tick later", x.due(8), 1000000);
+        Check.same("made at 999999: the tick after that", x.cron(2, 1, 1, 1 << 2, 127), 9);
+        Check.same("beyond the last time", x.due(9), NEVER);
+        x.advance(1);
+        for (int job = 0; job < 10; job++) {
+            Check.same("at 1000000, job " + job, x.due(job), NEVER);
+        }
+        Check.same("no job", x.due(10), REFUSED);
     }
 
     private static void beyondTheLastTime() {

@@ -4,6 +4,7 @@ public final class Promise11Test {
 
     public static void main(String[] args) {
         refused();
+        eachJobNumber();
         counts();
         Check.end();
     }
@@ -20,6 +21,23 @@ public final class Promise11Test {
             Check.same("job 1", x.about(1, what), REFUSED);
             Check.same("job 11", x.about(11, what), REFUSED);
             Check.same("job 12", x.about(12, what), REFUSED);
+        }
+    }
+
+    private static void eachJobNumber() {
+        WheelScheduler x = new WheelScheduler(1);
+        for (int job = 0; job < 12; job++) {
+            x.job(job % 3, 10, 10);
+            for (int other = 0; other < 12; other++) {
+                Check.same("kind of " + other, x.about(other, 5), other > job ? REFUSED : other % 3);
+            }
+            Check.same("what -1", x.about(job, -1), REFUSED);
+            Check.same("what 6", x.about(job, 6), REFUSED);
+        }
+        x.give(4);
+        for (int what = -1; what <= 6; what++) {
+            Check.same("given up, what " + what, x.about(4, what), REFUSED);
+            Check.same("never there, what " + what, x.about(12, what), REFUSED);
         }
     }
 

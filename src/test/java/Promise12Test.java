@@ -4,6 +4,7 @@ public final class Promise12Test {
 
     public static void main(String[] args) {
         refused();
+        notSoMany();
         sixteenRuns();
         startAndDue();
         givenUp();
@@ -24,6 +25,25 @@ public final class Promise12Test {
         int[] wrongWhat = {-1, 3, Integer.MIN_VALUE, Integer.MAX_VALUE};
         for (int what : wrongWhat) {
             Check.same("what " + what, x.run(0, what), REFUSED);
+        }
+    }
+
+    private static void notSoMany() {
+        WheelScheduler x = new WheelScheduler(1);
+        x.job(1, 1, 1);
+        for (int runs = 0; runs <= 18; runs++) {
+            int oldest = runs > 16 ? 15 : runs - 1;
+            for (int what = 0; what <= 2; what++) {
+                Check.same("the next after the oldest of " + runs, x.run(oldest + 1, what), REFUSED);
+                if (runs > 0) {
+                    int want = what == 0 ? 0 : runs - oldest;
+                    Check.same("the oldest of " + runs + ", what " + what, x.run(oldest, what), want);
+                }
+            }
+            Check.same("what -1", x.run(0, -1), REFUSED);
+            Check.same("what 3", x.run(0, 3), REFUSED);
+            Check.same("k -1", x.run(-1, 0), REFUSED);
+            x.advance(1);
         }
     }
 

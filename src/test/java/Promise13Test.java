@@ -13,6 +13,12 @@ public final class Promise13Test {
         for (int what : wrong) {
             Check.same("state " + what, x.state(what), WheelScheduler.REFUSED);
         }
+        x.stop();
+        x.advance(30000);
+        for (int what : wrong) {
+            Check.same("later, state " + what, x.state(what), WheelScheduler.REFUSED);
+        }
+        all("all others", x, 30000, 1, 0, 0, 1, 0, 0, 6, 2, 4);
     }
 
     private static void all(String name, WheelScheduler x, int... want) {

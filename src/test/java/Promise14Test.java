@@ -3,10 +3,32 @@ public final class Promise14Test {
     private static final int NEVER = WheelScheduler.NEVER;
 
     public static void main(String[] args) {
+        noRun();
         severalRuns();
         stoppedAndGivenUp();
         beyondTheLastTime();
         Check.end();
+    }
+
+    private static void noRun() {
+        WheelScheduler x = new WheelScheduler(3);
+        Check.same("no job", x.nextEnd(), NEVER);
+        x.manner(2, 0, 1, 0);
+        x.job(1, 1, 1);
+        Check.same("not due yet", x.nextEnd(), NEVER);
+        x.advance(2);
+        Check.same("a run", x.nextEnd(), 3);
+        x.stop();
+        x.advance(1);
+        Check.same("a request waits while it is stopped", x.state(2), 1);
+        Check.same("but there is no run", x.nextEnd(), NEVER);
+        x.go();
+        Check.same("it runs", x.nextEnd(), 5);
+        x.give(0);
+        x.advance(1);
+        Check.same("given up, it runs on", x.nextEnd(), 5);
+        x.advance(1);
+        Check.same("no run", x.nextEnd(), NEVER);
     }
 
     private static void severalRuns() {
