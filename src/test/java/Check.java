@@ -42,10 +42,13 @@ final class Check {
         return text.toString();
     }
 
-    /** As many calls of advance as are needed, at most 34. */
+    /** As many calls of advance as are needed, at most 34: the last time is 1000000. */
     static void advanceTo(WheelScheduler x, int time) {
-        for (int now = x.state(0); now < time; now = x.advance(Math.min(30000, time - now))) {
+        int now = x.state(0);
+        for (int i = 0; i < 34 && now < time; i++) {
+            now = x.advance(Math.min(30000, time - now));
         }
+        yes("time " + time + " is reached", x.state(0) >= time);
     }
 
     static void unchanged(String calls, String before, WheelScheduler x) {

@@ -50,9 +50,12 @@ public final class ModelTest {
         return calls;
     }
 
-    /** Mostly within the range, now and then just outside it. */
+    /** Mostly within the range, now and then just outside it, seldom far outside. */
     private int near(int least, int greatest) {
         int much = draw.nextInt(40);
+        if (much == 2 && draw.nextInt(8) == 0) {
+            return draw.nextBoolean() ? Integer.MIN_VALUE : Integer.MAX_VALUE;
+        }
         return much == 0 ? least - 1 : much == 1 ? greatest + 1 : least + draw.nextInt(greatest - least + 1);
     }
 

@@ -10,6 +10,7 @@ public final class Promise04Test {
         limits();
         jobsOfBothSorts();
         runsWhenDue();
+        atTheEndOfTime();
         Check.end();
     }
 
@@ -110,5 +111,20 @@ public final class Promise04Test {
         x.advance(76);
         Check.same("at 103", x.run(0, 2), 103);
         Check.same("three in all", x.about(0, 0), 3);
+    }
+
+    /** It is refused for its sets and for twelve jobs; that a job is never due is told by due. */
+    private static void atTheEndOfTime() {
+        WheelScheduler x = new WheelScheduler(1);
+        Check.advanceTo(x, 1000000);
+        for (int job = 0; job < 12; job++) {
+            Check.same("a set too large", x.cron(1024, 255, 1023, 15, 127), REFUSED);
+            Check.same("an empty set", x.cron(1023, 255, 1023, 0, 127), REFUSED);
+            Check.same("made at the last time", x.cron(1023, 255, 1023, 15, 127), job);
+            Check.same("never due", x.due(job), WheelScheduler.NEVER);
+            Check.same("its kind", x.about(job, 5), 3);
+        }
+        Check.same("13th", x.cron(1023, 255, 1023, 15, 127), REFUSED);
+        Check.same("it can be requested", x.request(11), 1);
     }
 }

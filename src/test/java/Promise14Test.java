@@ -7,6 +7,7 @@ public final class Promise14Test {
         severalRuns();
         stoppedAndGivenUp();
         beyondTheLastTime();
+        aboutTheLastTime();
         Check.end();
     }
 
@@ -81,5 +82,23 @@ public final class Promise14Test {
             x.advance(30000);
         }
         Check.same("at the last time", x.nextEnd(), 1000200);
+    }
+
+    /** No latest time is named: an end that no tick reaches is told like any other. */
+    private static void aboutTheLastTime() {
+        WheelScheduler x = new WheelScheduler(3);
+        for (int duration = 1; duration <= 3; duration++) {
+            x.manner(duration, 0, 0, 0);
+            x.job(0, 999999, 0);
+        }
+        Check.advanceTo(x, 999999);
+        Check.same("an end at the last time", x.nextEnd(), 1000000);
+        x.advance(1);
+        Check.same("an end a tick after it", x.nextEnd(), 1000001);
+        x.advance(1);
+        Check.same("which does not come", x.nextEnd(), 1000001);
+        Check.same("so two runs go on", x.state(1), 1);
+        Check.same("a request at the last time", x.request(0), 1);
+        Check.same("ends no earlier", x.nextEnd(), 1000001);
     }
 }

@@ -22,6 +22,7 @@ public final class TermsJobsTest {
         endAfterAnotherEndChangesNothing();
         endWhenItIsDueChangesNothing();
         anyRunThatEndsTells();
+        theEndOfARunByGoTells();
         endWhileStoppedTells();
         Check.end();
     }
@@ -329,6 +330,21 @@ public final class TermsJobsTest {
         Check.same("that run's end at 10 tells", x.due(0), 40);
         x.advance(10);
         Check.same("its own end at 20 changes nothing", x.due(0), 40);
+    }
+
+    private static void theEndOfARunByGoTells() {
+        WheelScheduler x = new WheelScheduler(1);
+        x.manner(10, 0, 1, 1);
+        x.job(2, 4, 5);
+        x.stop();
+        x.advance(6);
+        Check.same("missed at 4, so 9 is known", x.due(0), 9);
+        Check.same("go", x.go(), 1);
+        x.advance(3);
+        Check.same("it waits behind the run of go", x.about(0, 3), 1);
+        Check.same("not known", x.due(0), NEVER);
+        x.advance(7);
+        Check.same("that run's end at 16 tells", x.due(0), 21);
     }
 
     private static void endWhileStoppedTells() {
